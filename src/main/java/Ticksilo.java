@@ -177,7 +177,7 @@ public final class Ticksilo {
         if (resultsLeft() != 1) {
             throw new IllegalStateException("the draft does not leave just one result");
         }
-        Result result = pile.reckon(draft, store.ordered, time);
+        Result result = pile.reckon(draft, store.numbered, time);
         asked.becomeVector();
         if (result == null) {
             return NONE;
@@ -388,7 +388,7 @@ public final class Ticksilo {
     private void goThroughRules() {
         for (int i = 0; i < rules.size(); i++) {
             Rule rule = rules.get(i);
-            Result result = pile.reckon(rule.words, store.ordered, now);
+            Result result = pile.reckon(rule.words, store.numbered, now);
             if (rule.records()) {
                 writeResult(result, rule.two);
             } else {
@@ -614,7 +614,6 @@ public final class Ticksilo {
     /** All series, the log, and what the copy has. */
     private static final class Store {
         final ArrayList<Series> numbered = new ArrayList<Series>();
-        final ArrayList<Series> ordered = new ArrayList<Series>();
         final ArrayList<Logged> records = new ArrayList<Logged>();
         boolean copyDown = false;
         private int written = 0;
@@ -632,7 +631,8 @@ public final class Ticksilo {
                 return OVER;
             }
             if (series == null) {
-                series = comeUp(labels);
+                series = new Series(labels);
+                numbered.add(series);
             }
             Sample sample = new Sample(series, time, value, written, !copyDown);
             written++;
@@ -642,9 +642,9 @@ public final class Ticksilo {
         }
 
         private Series find(int labels) {
-            for (int i = 0; i < ordered.size(); i++) {
-                if (ordered.get(i).labels == labels) {
-                    return ordered.get(i);
+            for (int i = 0; i < numbered.size(); i++) {
+                if (numbered.get(i).labels == labels) {
+                    return numbered.get(i);
                 }
             }
             return null;
@@ -652,8 +652,8 @@ public final class Ticksilo {
 
         private int countSeen(int zero) {
             int count = 0;
-            for (int i = 0; i < ordered.size(); i++) {
-                Series series = ordered.get(i);
+            for (int i = 0; i < numbered.size(); i++) {
+                Series series = numbered.get(i);
                 if (series.labels / 100 == zero) {
                     count += series.seen.size();
                 }
@@ -661,21 +661,10 @@ public final class Ticksilo {
             return count;
         }
 
-        private Series comeUp(int labels) {
-            Series series = new Series(labels);
-            int place = ordered.size();
-            while (place > 0 && ordered.get(place - 1).labels > labels) {
-                place--;
-            }
-            ordered.add(place, series);
-            numbered.add(series);
-            return series;
-        }
-
         int countSelected(Selector selector) {
             int count = 0;
-            for (int i = 0; i < ordered.size(); i++) {
-                if (selector.selects(ordered.get(i).labels)) {
+            for (int i = 0; i < numbered.size(); i++) {
+                if (selector.selects(numbered.get(i).labels)) {
                     count++;
                 }
             }
@@ -685,8 +674,8 @@ public final class Ticksilo {
         int hide(Selector selector, int from, int to) {
             Sample first = null;
             int count = 0;
-            for (int i = 0; i < ordered.size(); i++) {
-                Series series = ordered.get(i);
+            for (int i = 0; i < numbered.size(); i++) {
+                Series series = numbered.get(i);
                 if (!selector.selects(series.labels)) {
                     continue;
                 }
@@ -725,8 +714,8 @@ public final class Ticksilo {
 
         int packAll(int oldest) {
             int count = 0;
-            for (int i = 0; i < ordered.size(); i++) {
-                Series series = ordered.get(i);
+            for (int i = 0; i < numbered.size(); i++) {
+                Series series = numbered.get(i);
                 series.forgetAheadOf(oldest);
                 count += series.packBlocks();
             }
@@ -736,8 +725,8 @@ public final class Ticksilo {
 
         int countNotCopied() {
             int count = 0;
-            for (int i = 0; i < ordered.size(); i++) {
-                ArrayList<Sample> seen = ordered.get(i).seen;
+            for (int i = 0; i < numbered.size(); i++) {
+                ArrayList<Sample> seen = numbered.get(i).seen;
                 for (int k = 0; k < seen.size(); k++) {
                     if (!seen.get(k).copied) {
                         count++;
@@ -760,8 +749,8 @@ public final class Ticksilo {
 
         private Sample firstNotCopied() {
             Sample first = null;
-            for (int i = 0; i < ordered.size(); i++) {
-                ArrayList<Sample> seen = ordered.get(i).seen;
+            for (int i = 0; i < numbered.size(); i++) {
+                ArrayList<Sample> seen = numbered.get(i).seen;
                 for (int k = 0; k < seen.size(); k++) {
                     Sample sample = seen.get(k);
                     if (!sample.copied && (first == null || sample.order < first.order)) {

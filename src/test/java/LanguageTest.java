@@ -9,7 +9,7 @@ import java.util.regex.Pattern;
 /** Looks through the text of Ticksilo.java, whose path is the argument, for what LANGUAGE.md does not leave. */
 public final class LanguageTest {
     private static final int LONGEST_METHOD = 60;
-    private static final int MOST_CLASSES = 13;
+    private static final int MOST_CLASSES = 12;
     private static final int MOST_FIELDS = 20;
     private static final String[] RULED_OUT = {
         "->", "::", "\\bcatch\\b", "\\bfinally\\b", "\\bsynchronized\\b", "\\bassert\\b", "Exact\\s*\\(", "\\bdouble\\b",
@@ -45,7 +45,7 @@ public final class LanguageTest {
         while (thrown.find()) {
             if (!thrown.group(1).matches("new (IllegalState|IllegalArgument|IndexOutOfBounds)Exception\\(\"\"\\)")) fault(thrown.group());
         }
-        Matcher lists = Pattern.compile("\\b(seen|ordered|numbered|records|rules|found|draft|rows|selectors|silenced)\\.(\\w+)\\(").matcher(code);
+        Matcher lists = Pattern.compile("\\b(seen|numbered|records|rules|found|draft|rows|selectors|silenced)\\.(\\w+)\\(").matcher(code);
         while (lists.find()) {
             if (!LISTS.contains(lists.group(2))) fault(lists.group());
         }

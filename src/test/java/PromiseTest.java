@@ -112,6 +112,10 @@ public final class PromiseTest {
         due(x.write(0, 6, 5, 200, 1), Ticksilo.GOOD);
         due(x.write(0, 6, 5, 199, 1), Ticksilo.LATE);
         due(x.write(0, 6, 4, 199, 1), Ticksilo.GOOD);
+        due(x.write(0, 6, 4, 99, 1), Ticksilo.GOOD);
+        due(x.write(0, 6, 4, 98, 1), Ticksilo.LATE);
+        due(x.write(0, 6, 3, 101, 1), Ticksilo.GOOD);
+        due(x.write(0, 6, 3, 0, 1), Ticksilo.LATE);
         argument(() -> x.write(-1, 0, 0, 0, 0));
         argument(() -> x.write(7, 0, 0, 0, 0));
         argument(() -> x.write(0, -1, 0, 0, 0));
@@ -123,7 +127,7 @@ public final class PromiseTest {
         argument(() -> x.write(0, 0, 0, 0, 1000001));
         argument(() -> x.write(0, 0, 0, 0, -1000001));
         argument(() -> x.write(0, 0, 0, 0, STALE + 1));
-        due(x.series(), 2);
+        due(x.series(), 3);
         writeErased();
         writeTooMany();
     }
@@ -161,6 +165,11 @@ public final class PromiseTest {
         due(x.write(3, 3, 5, 1, 0), Ticksilo.FULL);
         due(x.write(2, 3, 5, 1, 0), Ticksilo.FULL);
         due(x.write(3, 3, 4, 2, 0), Ticksilo.GOOD);
+        Ticksilo y = at(100);
+        for (int i = 0; i < 60; i++) due(y.write(1, 0, 0, i, i), Ticksilo.GOOD);
+        due(y.write(1, 0, 0, 60, 0), Ticksilo.OVER);
+        due(y.write(0, 0, 0, 60, 0), Ticksilo.GOOD);
+        due(y.write(0, 6, 6, 60, 0), Ticksilo.GOOD);
     }
 
     private static void series() {
@@ -374,12 +383,37 @@ public final class PromiseTest {
         index(() -> x.bits(0, 8));
         index(() -> x.bits(0, -1));
         index(() -> x.bits(0, Integer.MAX_VALUE));
+        bitsOfEdges();
         Ticksilo y = at(100);
         int[] steps = {0, 1, 66, 67};
         for (int t : steps) y.write(0, 0, 0, t, t == 66 ? 256 : 1);
         y.flush();
         // Differences 1, 64, -64; the values 1, 1, 256, 1 are unlike in the bits 8 to 0.
         due(y.bits(0, 0), 64 + 10 + 9 + 21 + 12 + 21);
+    }
+
+    private static void bitsOfEdges() {
+        Ticksilo x = at(200);
+        index(() -> x.bits(0, 0));
+        x.write(0, 0, 0, 0, 8);
+        index(() -> x.bits(0, 0));
+        x.write(0, 0, 0, 1, 12);
+        x.write(0, 0, 0, 67, 13);
+        x.write(1, 0, 0, 0, -1);
+        x.write(1, 0, 0, 70, Integer.MIN_VALUE);
+        x.write(1, 0, 0, 77, 0);
+        for (int i = 0; i < 60; i++) x.write(2, 0, 0, 2 * i, 96 * (i % 2));
+        for (int i = 0; i < 60; i++) x.write(3, 0, 0, 100 + i, 1);
+        due(x.flush(), 5);
+        // Differences 1, 65; the values are unlike in the bit 2, then in the bit 0.
+        due(x.bits(0, 0), 64 + 9 + 13 + 12 + 13);
+        // Differences 70, -63; unlike in the bits 30 to 0, then in the bit 31.
+        due(x.bits(1, 0), 64 + 12 + 43 + 9 + 13);
+        // Each of the first 50 has a distance of 2, and is unlike in the bits 6 and 5.
+        due(x.bits(2, 0), 64 + 9 + 14 + 48 * 15);
+        due(x.bits(2, 1), 64 + 9 + 14 + 8 * 15);
+        due(x.bits(3, 1), 64 + 10 + 58 * 2);
+        index(() -> x.bits(3, 0));
     }
 
     private static void select() {
@@ -550,6 +584,7 @@ public final class PromiseTest {
         // Just 2 to the end and 1 from the beginning: e is 33.
         due(only(x, 132, Ticksilo.RATE, 0, 33), 1000 * 40 * 33 / (30 * 33));
         due(only(x, 110, Ticksilo.RATE, 0, 20), 1000 * 20 * 15 / (10 * 20));
+        due(only(x, 110, Ticksilo.RATE, 0, 11), 1000 * 20 * 11 / (10 * 11));
         // Two that only fall below 0: no increase.
         due(only(x, 130, Ticksilo.RATE, 0, 10), 0);
         due(many(x, 130, Ticksilo.RATE, 0, 9), 0);
@@ -557,6 +592,8 @@ public final class PromiseTest {
         y.write(0, 0, 0, 1, -4);
         y.write(0, 0, 0, 2, -5);
         y.write(0, 0, 0, 4, 5);
+        due(only(y, 2, Ticksilo.RATE, 0, 2), 0);
+        due(only(y, 4, Ticksilo.RATE, 0, 3), 1000 * 10 * 3 / (2 * 3));
         // From -5 to 5 are 10; d is 3, the reach 3 / 2 / 2 = 0.
         due(only(y, 10, Ticksilo.RATE, 0, 100), 1000 * 10 * 3 / (3 * 100));
     }
@@ -640,6 +677,9 @@ public final class PromiseTest {
         due(only(x, 0, n, m, 0, n, m, 0, t, 0, 0, n, m, 0, t, 0, 0), 1000000000000L);
         due(only(x, 0, n, m, 0, n, m, 0, t, 0, 0, n, m, 0, t, 0, 0, n, m, 0, t, 0, 0), bound);
         due(only(x, 0, n, -m, 0, n, m, 0, t, 0, 0, n, m, 0, t, 0, 0, n, m, 0, t, 0, 0), -bound);
+        due(only(x, 0, n, 1999, 0, n, 999999, 0, t, 0, 0), 1998998);
+        due(only(x, 0, n, -1999, 0, n, -999999, 0, t, 0, 0), 1998998);
+        due(only(x, 0, n, 0, 0, n, -999999, 0, t, 0, 0), 0);
         due(only(x, 0, n, -m, 0, n, 1, 0, Ticksilo.PER, 0, 0, n, 1, 0, Ticksilo.PER, 0, 0), -1000000000000L);
         due(only(x, 0, n, m, 0, n, 1, 0, Ticksilo.PER, 0, 0, n, 1, 0, Ticksilo.PER, 0, 0, n, 1, 0, Ticksilo.PER, 0, 0), bound);
         x.write(0, 0, 0, 0, 1000000);
@@ -705,6 +745,12 @@ public final class PromiseTest {
         z.write(0, 0, 1, 0, 5);
         // The rank 0 lies half of the way from -5 to 5.
         due(only(z, 0, a, 0, 0, q, 0, 0), 1500);
+        // 5 by a thousandth are 5 thousandths; the rank 1 lies 6 of 10 of the way.
+        due(only(z, 0, a, 0, 0, Ticksilo.NUMBER, 1, 0, Ticksilo.TIMES, 7, 0, q, 200, 0), 1600);
+        Ticksilo w = new Ticksilo();
+        w.write(0, 0, 0, 0, 1);
+        due(only(w, 0, a, 0, 0, Ticksilo.NUMBER, 1, 0, Ticksilo.TIMES, 7, 0, q, 1000, 0), 1000);
+        due(only(w, 0, a, 0, 0, Ticksilo.NUMBER, 1, 0, Ticksilo.TIMES, 7, 0, q, 999, 0), 0);
     }
 
     private static void value() {
@@ -930,12 +976,46 @@ public final class PromiseTest {
         due(x.notices(), 2);
         x.inhibit(2, Ticksilo.NONE);
         due(x.inhibit(3, Ticksilo.NONE), 2);
+        // Those that were FIRING all the time are told as soon as nothing inhibits them.
         x.pass(10);
         due(x.notices(), 5);
         due(x.notice(2, 0), 2);
         due(x.notice(2, 1), 0);
         due(x.notice(3, 0), 3);
         due(x.notice(4, 1), 100);
+        inhibitedByTheFirst();
+    }
+
+    private static void inhibitedByTheFirst() {
+        Ticksilo x = at(5);
+        x.write(0, 0, 0, 5, 9);
+        x.write(6, 0, 0, 5, 9);
+        putAbove(x, 1000);
+        x.alert(20, 0);
+        putAbove(x, 1000);
+        x.alert(10, 0);
+        due(x.inhibit(1, 0), Ticksilo.NONE);
+        index(() -> x.inhibit(0, 0));
+        index(() -> x.inhibit(2, 0));
+        index(() -> x.inhibit(0, 1));
+        // An entry of alert 0 that is WAITING doesn't inhibit.
+        x.pass(15);
+        due(x.entries(0, true), 0);
+        due(x.notices(), 2);
+        x.pass(10);
+        due(x.notices(), 4);
+        Ticksilo y = at(5);
+        y.write(6, 0, 0, 5, 9);
+        putAbove(y, 1000);
+        y.alert(0, 0);
+        putAbove(y, 1000);
+        y.alert(0, 0);
+        y.inhibit(1, 0);
+        // Both are without the label 0.
+        y.pass(5);
+        due(y.notices(), 1);
+        due(y.notice(0, 0), 0);
+        due(y.notice(0, 1), 600);
     }
 
     private static void silence() {
@@ -961,7 +1041,8 @@ public final class PromiseTest {
         due(x.notices(), 2);
         due(x.notice(1, 1), 106);
         due(x.notice(1, 2), 30);
-        for (int i = 2; i <= 10; i++) due(x.silence(3, 100000), i);
+        due(x.silence(3, 0), 2);
+        for (int i = 3; i <= 10; i++) due(x.silence(3, 100000), i);
         state(() -> x.silence(3, 100000));
         argument(() -> x.silence(3, 100001));
         index(() -> x.silence(4, 100000));
@@ -1093,6 +1174,8 @@ public final class PromiseTest {
         due(x.suits(100, 299, 290), false);
         due(x.suits(100, 99999, 1000), true);
         due(x.suits(10, 100000, 1000), false);
+        due(x.suits(10, 0, 10), false);
+        due(x.suits(10, 9, 1), false);
         argument(() -> x.suits(1, 9, 10) ? 1 : 0);
         argument(() -> x.suits(10, -1, 10) ? 1 : 0);
         argument(() -> x.suits(10, 100001, 10) ? 1 : 0);
