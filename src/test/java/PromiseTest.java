@@ -594,6 +594,13 @@ public final class PromiseTest {
         y.write(0, 0, 0, 4, 5);
         due(only(y, 2, Ticksilo.RATE, 0, 2), 0);
         due(only(y, 4, Ticksilo.RATE, 0, 3), 1000 * 10 * 3 / (2 * 3));
+        Ticksilo z = at(10);
+        z.write(0, 0, 0, 1, 7);
+        z.write(0, 0, 0, 2, 9);
+        z.write(0, 0, 0, 3, 9);
+        // As much as the one ahead is no rise and no fall.
+        due(only(z, 3, Ticksilo.RATE, 0, 10), 1000 * 2 * 2 / (2 * 10));
+        due(only(z, 2, Ticksilo.RATE, 0, 10), 1000 * 2 / 10);
         // From -5 to 5 are 10; d is 3, the reach 3 / 2 / 2 = 0.
         due(only(y, 10, Ticksilo.RATE, 0, 100), 1000 * 10 * 3 / (3 * 100));
     }
