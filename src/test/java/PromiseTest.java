@@ -1,89 +1,25 @@
-import java.util.function.LongSupplier;
-
 /** For each promise of the document, ordinary arguments, the edges that it names, and wrong ones. */
-public final class PromiseTest {
-    private static final int STALE = Ticksilo.STALE;
-    private static final int ALL = 127;
-    private static int wrong = 0;
-    private static int promise = 0;
-
-    private static void due(long got, long want) {
-        if (got != want) {
-            wrong++;
-            StackTraceElement at = new Throwable().getStackTrace()[1];
-            System.out.println("promise " + promise + ", line " + at.getLineNumber() + ": answered " + got + ", due is " + want);
-        }
-    }
-
-    private static void due(boolean got, boolean want) {
-        if (got != want) {
-            wrong++;
-            StackTraceElement at = new Throwable().getStackTrace()[1];
-            System.out.println("promise " + promise + ", line " + at.getLineNumber() + ": answered " + got);
-        }
-    }
-
-    private static void throwsIt(Class<? extends RuntimeException> kind, LongSupplier call) {
-        String got;
-        try {
-            got = "" + call.getAsLong();
-        } catch (RuntimeException e) {
-            if (e.getClass() == kind) return;
-            got = e.toString();
-        }
-        wrong++;
-        StackTraceElement at = new Throwable().getStackTrace()[2];
-        System.out.println("promise " + promise + ", line " + at.getLineNumber() + ": " + got + " in place of " + kind);
-    }
-
-    private static void index(LongSupplier call) {
-        throwsIt(IndexOutOfBoundsException.class, call);
-    }
-
-    private static void argument(LongSupplier call) {
-        throwsIt(IllegalArgumentException.class, call);
-    }
-
-    private static void state(LongSupplier call) {
-        throwsIt(IllegalStateException.class, call);
-    }
-
-    /** A new one at a time. */
-    private static Ticksilo at(int time) {
-        Ticksilo x = new Ticksilo();
-        passTo(x, 0, time);
-        return x;
-    }
-
-    private static void passTo(Ticksilo x, int from, int to) {
-        for (int t = from; t < to; t += 100) x.pass(Math.min(100, to - t));
-    }
-
+public final class PromiseTest extends Due {
     /** The first value of an expression at a time. */
     private static long only(Ticksilo x, int time, int... words) {
-        x.clear();
-        for (int i = 0; i < words.length; i += 3) x.word(words[i], words[i + 1], words[i + 2]);
+        draft(x, words);
         int many = x.ask(time);
         if (many != 1) return -1000000000 - many;
         return x.value(0);
     }
 
     private static int many(Ticksilo x, int time, int... words) {
-        x.clear();
-        for (int i = 0; i < words.length; i += 3) x.word(words[i], words[i + 1], words[i + 2]);
+        draft(x, words);
         return x.ask(time);
     }
 
     /** Puts the words of AT above a number of thousandths, with selector 0. */
     private static void putAbove(Ticksilo x, int thousandths) {
-        x.clear();
-        x.word(Ticksilo.AT, 0, 0);
-        x.word(Ticksilo.NUMBER, thousandths, 0);
-        x.word(Ticksilo.ABOVE, 0, 0);
+        draft(x, Ticksilo.AT, 0, 0, Ticksilo.NUMBER, thousandths, 0, Ticksilo.ABOVE, 0, 0);
     }
 
     private static void newObject() {
-        promise = 1;
+        tested = "promise 1";
         Ticksilo x = new Ticksilo();
         due(x.series(), 0);
         due(x.log(), 0);
@@ -100,7 +36,7 @@ public final class PromiseTest {
     }
 
     private static void write() {
-        promise = 2;
+        tested = "promise 2";
         Ticksilo x = at(300);
         due(x.write(0, 6, 5, 300, 1000000), Ticksilo.GOOD);
         due(x.write(0, 6, 5, 299, -1000000), Ticksilo.GOOD);
@@ -173,7 +109,7 @@ public final class PromiseTest {
     }
 
     private static void series() {
-        promise = 3;
+        tested = "promise 3";
         Ticksilo x = new Ticksilo();
         x.write(1, 2, 3, 0, 4);
         due(x.series(), 1);
@@ -190,7 +126,7 @@ public final class PromiseTest {
     }
 
     private static void labels() {
-        promise = 4;
+        tested = "promise 4";
         Ticksilo x = new Ticksilo();
         x.write(5, 2, 3, 0, 4);
         x.write(0, 0, 0, 0, 4);
@@ -205,7 +141,7 @@ public final class PromiseTest {
     }
 
     private static void samples() {
-        promise = 5;
+        tested = "promise 5";
         Ticksilo x = at(20);
         x.write(0, 0, 0, 3, 4);
         x.write(0, 0, 0, 9, STALE);
@@ -220,7 +156,7 @@ public final class PromiseTest {
     }
 
     private static void erase() {
-        promise = 6;
+        tested = "promise 6";
         Ticksilo x = at(50);
         for (int t = 10; t <= 50; t += 10) x.write(t / 30, 0, 0, t, t);
         x.select(1, 2, ALL, ALL);
@@ -246,7 +182,7 @@ public final class PromiseTest {
     }
 
     private static void pass() {
-        promise = 7;
+        tested = "promise 7";
         Ticksilo x = new Ticksilo();
         argument(() -> x.pass(0));
         argument(() -> x.pass(101));
@@ -273,7 +209,7 @@ public final class PromiseTest {
     }
 
     private static void retain() {
-        promise = 8;
+        tested = "promise 8";
         Ticksilo x = at(100);
         argument(() -> x.retain(0));
         argument(() -> x.retain(100001));
@@ -290,7 +226,7 @@ public final class PromiseTest {
     }
 
     private static void flush() {
-        promise = 9;
+        tested = "promise 9";
         Ticksilo x = at(250);
         x.write(0, 0, 0, 150, 1);
         x.write(0, 0, 0, 199, 1);
@@ -313,7 +249,7 @@ public final class PromiseTest {
     }
 
     private static void log() {
-        promise = 10;
+        tested = "promise 10";
         Ticksilo x = at(9);
         x.write(0, 0, 0, 9, 1);
         x.write(0, 0, 0, 9, 1);
@@ -329,7 +265,7 @@ public final class PromiseTest {
     }
 
     private static void crash() {
-        promise = 11;
+        tested = "promise 11";
         Ticksilo x = at(20);
         x.write(0, 0, 0, 1, 1);
         x.write(0, 0, 0, 2, 1);
@@ -358,7 +294,7 @@ public final class PromiseTest {
     }
 
     private static void bits() {
-        promise = 12;
+        tested = "promise 12";
         Ticksilo x = at(1000);
         int[] times = {900, 901, 966, 999};
         for (int t : times) x.write(0, 0, 0, t, 8);
@@ -417,7 +353,7 @@ public final class PromiseTest {
     }
 
     private static void select() {
-        promise = 13;
+        tested = "promise 13";
         Ticksilo x = new Ticksilo();
         due(x.select(0, ALL, ALL, ALL), 0);
         x.write(0, 1, 2, 0, 0);
@@ -441,7 +377,7 @@ public final class PromiseTest {
     }
 
     private static void word() {
-        promise = 14;
+        tested = "promise 14";
         Ticksilo x = new Ticksilo();
         argument(() -> x.word(-1, 0, 0));
         argument(() -> x.word(16, 0, 0));
@@ -492,7 +428,7 @@ public final class PromiseTest {
     }
 
     private static void clear() {
-        promise = 15;
+        tested = "promise 15";
         Ticksilo x = new Ticksilo();
         x.word(Ticksilo.NUMBER, 0, 0);
         x.word(Ticksilo.NUMBER, 0, 0);
@@ -506,7 +442,7 @@ public final class PromiseTest {
     }
 
     private static void ask() {
-        promise = 16;
+        tested = "promise 16";
         Ticksilo x = at(200);
         state(() -> x.ask(0));
         argument(() -> x.ask(-1));
@@ -761,7 +697,7 @@ public final class PromiseTest {
     }
 
     private static void value() {
-        promise = 17;
+        tested = "promise 17";
         Ticksilo x = new Ticksilo();
         x.write(1, 1, 1, 0, 3);
         x.write(0, 1, 1, 0, -2);
@@ -781,7 +717,7 @@ public final class PromiseTest {
     }
 
     private static void labelsOf() {
-        promise = 18;
+        tested = "promise 18";
         Ticksilo x = new Ticksilo();
         x.write(1, 6, 1, 0, 3);
         x.write(0, 1, 6, 0, -2);
@@ -795,7 +731,7 @@ public final class PromiseTest {
     }
 
     private static void record() {
-        promise = 19;
+        tested = "promise 19";
         Ticksilo x = new Ticksilo();
         argument(() -> x.record(6));
         argument(() -> x.record(-1));
@@ -869,7 +805,7 @@ public final class PromiseTest {
     }
 
     private static void alert() {
-        promise = 20;
+        tested = "promise 20";
         Ticksilo x = new Ticksilo();
         argument(() -> x.alert(-1, 0));
         argument(() -> x.alert(1001, 0));
@@ -947,7 +883,7 @@ public final class PromiseTest {
     }
 
     private static void inhibit() {
-        promise = 21;
+        tested = "promise 21";
         Ticksilo x = at(5);
         x.write(0, 0, 0, 5, 9);
         x.write(1, 0, 0, 5, 4);
@@ -1026,7 +962,7 @@ public final class PromiseTest {
     }
 
     private static void silence() {
-        promise = 22;
+        tested = "promise 22";
         Ticksilo x = at(5);
         x.write(0, 0, 0, 5, 9);
         x.write(1, 0, 6, 5, 9);
@@ -1056,7 +992,7 @@ public final class PromiseTest {
     }
 
     private static void entries() {
-        promise = 23;
+        tested = "promise 23";
         Ticksilo x = at(5);
         x.write(0, 0, 0, 5, 9);
         putAbove(x, 1000);
@@ -1077,7 +1013,7 @@ public final class PromiseTest {
     }
 
     private static void entry() {
-        promise = 24;
+        tested = "promise 24";
         Ticksilo x = at(5);
         x.write(3, 0, 0, 5, 9);
         putAbove(x, 1000);
@@ -1101,7 +1037,7 @@ public final class PromiseTest {
     }
 
     private static void notices() {
-        promise = 25;
+        tested = "promise 25";
         Ticksilo x = new Ticksilo();
         x.word(Ticksilo.NUMBER, 1, 0);
         x.alert(0, 0);
@@ -1114,7 +1050,7 @@ public final class PromiseTest {
     }
 
     private static void notice() {
-        promise = 26;
+        tested = "promise 26";
         Ticksilo x = new Ticksilo();
         for (int i = 0; i < 8; i++) {
             x.word(Ticksilo.AT, 0, 0);
@@ -1142,7 +1078,7 @@ public final class PromiseTest {
     }
 
     private static void thinned() {
-        promise = 27;
+        tested = "promise 27";
         Ticksilo x = at(210);
         x.write(0, 0, 0, 110, 5);
         x.write(0, 0, 0, 119, -8);
@@ -1169,7 +1105,7 @@ public final class PromiseTest {
     }
 
     private static void suits() {
-        promise = 28;
+        tested = "promise 28";
         Ticksilo x = new Ticksilo();
         due(x.suits(10, 9, 10), true);
         due(x.suits(10, 10, 10), false);
@@ -1191,7 +1127,7 @@ public final class PromiseTest {
     }
 
     private static void down() {
-        promise = 29;
+        tested = "promise 29";
         Ticksilo x = new Ticksilo();
         due(x.down(true), false);
         due(x.down(true), true);
@@ -1204,7 +1140,7 @@ public final class PromiseTest {
     }
 
     private static void behind() {
-        promise = 30;
+        tested = "promise 30";
         Ticksilo x = at(9);
         x.down(true);
         x.write(0, 0, 0, 8, 0);
@@ -1228,7 +1164,7 @@ public final class PromiseTest {
     }
 
     private static void mend() {
-        promise = 31;
+        tested = "promise 31";
         Ticksilo x = at(30);
         argument(() -> x.mend(0));
         argument(() -> x.mend(1001));
