@@ -6,10 +6,11 @@ import java.util.Set;
 import java.util.regex.Matcher;
 import java.util.regex.Pattern;
 
-/** What DOC.md says under each heading from "Terms" to the last promise, and which words of it are tested. */
+/** What DOC.md says under "What it is" and each heading from "Terms" to the last promise, and which words are tested. */
 final class Document {
     /** The heading given here to the sentences behind the terms, which stand under none of their own. */
     static final String EXCEPTIONS = "EXCEPTIONS";
+    static final String WHAT_IT_IS = "What it is";
     private static final Pattern PROMISE = Pattern.compile("## (Promise \\d+): .*");
     private static final Pattern TERM = Pattern.compile("[A-Z]+(, [A-Z]+)?");
     private static final Pattern SIGNATURE = Pattern.compile("`[^`]*\\([^`]*`: (.*)");
@@ -33,6 +34,7 @@ final class Document {
     private static String headingAt(String line, String heading) {
         Matcher promise = PROMISE.matcher(line);
         if (promise.matches()) return promise.group(1);
+        if (line.equals("## " + WHAT_IT_IS)) return WHAT_IT_IS;
         if (line.startsWith("## ") || line.startsWith("The constants: ")) return null;
         if (TERM.matcher(line).matches()) return line;
         return line.startsWith("A method that throws") ? EXCEPTIONS : heading;

@@ -15,6 +15,13 @@ public final class EdgeTest {
 
     /** Headings, each with words under it that name no boundary; PromiseTest has tests of them. */
     private static final String[][] PLAIN = {
+        {"What it is",
+            "A silo of series: readings with labels, that come late, twice and out of order, packed into blocks by"
+                + " differences of differences and by bits that changed, marks of stale ones, erasing, retention, a log"
+                + " that a crash tears off, a language of selectors, rates over resets, windows, sums by labels, joins"
+                + " and quantiles, thinned levels, rules that record in order, alerts that wait, fire, are kept firing,"
+                + " silenced, inhibited and told once, fair limits, and a copy that falls behind and is mended.",
+            "what later calls answer is free"},
         {"Promise 2", "Writes a sample."},
         {"Promise 6", "Erases."},
         {"Promise 7", "Lets time go on."},
@@ -65,7 +72,7 @@ public final class EdgeTest {
                 if (!document.mark(plain[0], plain[i])) fault("under " + plain[0] + " stands no \"" + plain[i] + "\"");
             }
         }
-        if (document.headings().size() != 37) fault("the headings read are " + document.headings());
+        if (document.headings().size() != 38) fault("the headings read are " + document.headings());
         for (String heading : document.headings()) {
             String left = document.untested(heading);
             if (!left.isEmpty()) fault("no test under " + heading + " of: " + left);

@@ -1,7 +1,10 @@
 import java.nio.file.Files;
 import java.nio.file.Path;
+import java.util.ArrayList;
 import java.util.List;
+import java.util.Map;
 import java.util.Set;
+import java.util.TreeMap;
 import java.util.TreeSet;
 import java.util.regex.Matcher;
 import java.util.regex.Pattern;
@@ -11,6 +14,9 @@ public final class LanguageTest {
     private static final int LONGEST_METHOD = 60;
     private static final int MOST_CLASSES = 12;
     private static final int MOST_FIELDS = 20;
+    private static final int DEEPEST_CALLS = 8;
+    private static final int LEAST_METHODS = 100;
+    private static final String OUTER = "Ticksilo";
     private static final String[] RULED_OUT = {
         "->", "::", "\\bcatch\\b", "\\bfinally\\b", "\\bsynchronized\\b", "\\bassert\\b", "Exact\\s*\\(", "\\bdouble\\b",
         "\\bfloat\\b", "\\bMap\\b", "\\bvar\\b", "\\bequals\\b", "\\bhashCode\\b", "\\btoString\\b", "\\bSystem\\.(?!arraycopy)",
@@ -51,31 +57,78 @@ public final class LanguageTest {
         }
     }
 
-    private static void checkSizes(List<String> lines) {
+    private static void checkClasses(String[] lines) {
         int classes = 0;
         int fields = 0;
-        int begin = -1;
-        String indent = "";
-        for (int i = 0; i < lines.size(); i++) {
-            String line = lines.get(i);
+        for (String line : lines) {
             if (line.matches("\\s*(public|private static) (final|abstract) class .*")) {
                 classes++;
                 fields = 0;
             }
             if (line.matches("\\s*(private |final )+(?!static)[^(]*( = .*)?;") && !line.contains("static") && ++fields > MOST_FIELDS) {
-                fault("too many fields at line " + (i + 1));
-            }
-            Matcher method = Pattern.compile("(\\s+)[^=]*\\)( throws [^{]*)? \\{").matcher(line);
-            if (begin < 0 && method.matches() && !line.matches("\\s*(if|for|while|switch|\\}).*")) {
-                begin = i;
-                indent = method.group(1);
-            }
-            if (begin >= 0 && line.equals(indent + "}")) {
-                if (i - begin > LONGEST_METHOD) fault("a long method at line " + (begin + 1));
-                begin = -1;
+                fault("too many fields: " + line);
             }
         }
         if (classes > MOST_CLASSES) fault(classes + " classes");
+    }
+
+    /** The bodies of methods and constructors, by their class and name. */
+    private static Map<String, StringBuilder> bodies(String[] lines) {
+        Map<String, StringBuilder> all = new TreeMap<>();
+        Pattern head = Pattern.compile("(\\s+)(?!if|for|while|switch|\\})[^=]*?(\\w+)\\([^()]*\\)( throws [^{]*)? \\{");
+        String within = OUTER;
+        for (int i = 0; i < lines.length; i++) {
+            Matcher inner = Pattern.compile("    \\S.* class (\\w+).*").matcher(lines[i]);
+            if (inner.matches()) within = inner.group(1);
+            Matcher method = head.matcher(lines[i]);
+            if (!method.matches()) continue;
+            int begin = i;
+            StringBuilder body = all.computeIfAbsent(within + "." + method.group(2), k -> new StringBuilder());
+            for (i++; i < lines.length && !lines[i].equals(method.group(1) + "}"); i++) body.append(lines[i]).append('\n');
+            if (i - begin > LONGEST_METHOD) fault(within + "." + method.group(2) + " is long");
+        }
+        return all;
+    }
+
+    /** The methods that a call can be of: of the class named ahead of a dot, of any class inside, or of the one at hand. */
+    private static List<String> called(String ahead, String name, String within, Set<String> all) {
+        if (ahead == null) {
+            String own = within + "." + name;
+            return all.contains(own) ? List.of(own) : List.of(OUTER + "." + name, name + "." + name);
+        }
+        if (Character.isUpperCase(ahead.charAt(0))) return List.of(ahead + "." + name);
+        List<String> any = new ArrayList<>();
+        for (String one : all) {
+            if (one.endsWith("." + name) && !one.startsWith(OUTER + ".")) any.add(one);
+        }
+        return any;
+    }
+
+    /** How many calls stand open at most from a method on, itself counted. */
+    private static int depth(String method, Map<String, StringBuilder> bodies, Map<String, Integer> known) {
+        Integer before = known.get(method);
+        if (before != null) return before;
+        // What comes back to a method while that is being reckoned is a recursion, and none is needed.
+        known.put(method, DEEPEST_CALLS + 1);
+        int deepest = 0;
+        String within = method.substring(0, method.indexOf('.'));
+        Matcher call = Pattern.compile("(?:(\\w+|\\))\\.)?(\\w+)\\(").matcher(bodies.get(method));
+        while (call.find()) {
+            for (String one : called(call.group(1), call.group(2), within, bodies.keySet())) {
+                if (bodies.containsKey(one)) deepest = Math.max(deepest, depth(one, bodies, known));
+            }
+        }
+        known.put(method, deepest + 1);
+        return deepest + 1;
+    }
+
+    private static void checkCalls(Map<String, StringBuilder> bodies) {
+        Map<String, Integer> known = new TreeMap<>();
+        for (String method : bodies.keySet()) {
+            int deep = depth(method, bodies, known);
+            if (deep > DEEPEST_CALLS) fault(method + " goes " + deep + " calls deep");
+        }
+        if (bodies.size() < LEAST_METHODS) fault("methods read: " + bodies.keySet());
     }
 
     private static void checkConstructors(String code) {
@@ -98,7 +151,9 @@ public final class LanguageTest {
         String code = withoutComments(text);
         checkWords(code);
         checkConstructors(code);
-        checkSizes(List.of(code.split("\n")));
+        String[] lines = code.replaceAll("\\)\n +throws ", ") throws ").split("\n");
+        checkClasses(lines);
+        checkCalls(bodies(lines));
         System.out.println(wrong == 0 ? "LanguageTest: the text is as due" : "LanguageTest: " + wrong + " faults");
         if (wrong != 0) System.exit(1);
     }

@@ -1,5 +1,31 @@
 /** Boundary cases of SERIES, SAMPLES and of the promises 1 to 7. */
 final class SamplesEdges extends Due {
+    // ---- What it is
+
+    @Sentence(under = "What it is", says = "An object is used for at most 512 calls after it has been made")
+    static void timeGoesOnUpToThe512thCall() {
+        Ticksilo x = new Ticksilo();
+        for (int i = 1; i <= 512; i++) due(x.pass(100), 100 * i);
+    }
+
+    @Sentence(under = "What it is", says = "at most 512 calls")
+    static void rulesAndAlertsGoOnUpToThe512thCall() {
+        Ticksilo x = new Ticksilo();
+        x.word(NUMBER, 7000, 0);
+        x.record(0);
+        draft(x, COUNT, 0, 10);
+        x.alert(0, 0);
+        for (int call = 6; call < 512; call++) due(x.pass(100), 100 * (call - 5));
+        due(x.samples(0), 60);
+    }
+
+    @Sentence(under = "What it is", says = "512 calls after it has been made")
+    static void samplesAreTakenUpToThe512thCall() {
+        Ticksilo x = at(59);
+        for (int i = 0; i < 420; i++) due(x.write(i / 60, 0, 0, i % 60, i), GOOD);
+        for (int call = 422; call <= 512; call++) due(x.write(call % 7, 1, 0, 59, 0), OVER);
+    }
+
     // ---- SERIES, SAMPLES
 
     @Sentence(under = "SERIES, SAMPLES", says = "A series is named by three labels, 0, 1 and 2, each with a value, 0 to 5, or without, told as 6.")
@@ -26,7 +52,7 @@ final class SamplesEdges extends Due {
         for (int i = 0; i < 4; i++) due(x.labels(i), labels[i]);
     }
 
-    /** Twelve series 100 to 155, each with a sample at the time 0. */
+    /** Twelve series, 100 to 105 and 110 to 115, each with a sample at the time 0. */
     private static Ticksilo ofTwelve() {
         Ticksilo x = new Ticksilo();
         for (int i = 0; i < 12; i++) due(x.write(1, i / 6, i % 6, 0, i), GOOD);
